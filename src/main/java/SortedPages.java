@@ -248,7 +248,7 @@ public final class SortedPages {
     }
 
     private static boolean isLetter(int sign) {
-        return isWithin(sign, 'a', 'z');
+        return sign >= 'a' && sign <= 'z';
     }
 
     private static boolean endsInTime(int f, int s, int n) {
@@ -379,7 +379,7 @@ public final class SortedPages {
         }
 
         int child(int slot) {
-            return slot > 0 ? tail(slot - 1) : link();
+            return slot > 0 ? at(offset(slot) - 1) : link();
         }
 
         void readKey(int index, Key key) {
@@ -392,8 +392,10 @@ public final class SortedPages {
         }
 
         int compare(int index, Key key) {
+            int offset = offset(index);
+            int length = at(offset);
             for (int j = 0; j < MOST_LETTERS; j++) {
-                int letter = letterOf(index, j);
+                int letter = j < length ? at(offset + 1 + j) : 0;
                 if (letter != key.at(j)) {
                     return letter < key.at(j) ? -1 : 1;
                 }
@@ -517,12 +519,11 @@ public final class SortedPages {
         }
 
         void goDown(Key key) {
-            int number = root;
-            for (int level = 0; level < levels && level < way.length && level < slots.length; level++) {
-                way[level] = number;
-                Page page = pageOf(number);
-                slots[level] = page.entriesBelow(key, true);
-                number = page.child(slots[level]);
+            way[0] = root;
+            for (int level = 1; level < levels && level < way.length && level < slots.length; level++) {
+                Page above = pageOf(way[level - 1]);
+                slots[level] = above.entriesBelow(key, true);
+                way[level] = above.child(slots[level]);
             }
         }
 
@@ -534,7 +535,7 @@ public final class SortedPages {
             return pageOf(numberOn(level));
         }
 
-        /** Which child the way took on a level, FIRST being 0. */
+        /** Which child of the INNER above the PAGE on a level is, FIRST being 0. */
         int slotOn(int level) {
             return level >= 0 && level < slots.length ? slots[level] : 0;
         }
@@ -642,7 +643,7 @@ public final class SortedPages {
                     return;
                 }
                 tail = split(page);
-                index = tree.slotOn(level - 1);
+                index = tree.slotOn(level);
             }
             raiseRoot(tail);
         }
@@ -709,7 +710,7 @@ public final class SortedPages {
         /** False if the INNER above need not be looked at: it has as many ENTRIES as ahead. */
         private boolean mend(int level) {
             Page above = tree.pageOn(level - 1);
-            int slot = tree.slotOn(level - 1);
+            int slot = tree.slotOn(level);
             int between = slot < above.entries() ? slot : slot - 1;
             if (between < 0) {
                 return false;
@@ -859,6 +860,11 @@ public final class SortedPages {
                 noteLeaf(number);
                 return 0;
             }
+            return walkChildren(number, depth, low, high);
+        }
+
+        private int walkChildren(int number, int depth, int low, int high) {
+            Page page = tree.pageOf(number);
             for (int slot = 0; slot <= page.entries(); slot++) {
                 int ahead = slot > 0 ? number * SIZE + slot - 1 : low;
                 int behind = slot < page.entries() ? number * SIZE + slot : high;
@@ -1137,7 +1143,7 @@ public final class SortedPages {
         }
 
         private static boolean isFigure(int sign) {
-            return isWithin(sign, '0', '9');
+            return sign >= '0' && sign <= '9';
         }
     }
 
