@@ -187,6 +187,24 @@ public final class SortedPagesEdgesOfCalls {
     due(x.rank("aaaab", 1), 1);
   }
 
+  /** The value 98 is that of the letter b, and stands right behind the a. */
+  private static void aValueIsNoLetter() {
+    Pages.sentence("how many letters, the letters, then one BYTE: which is no letter of the KEY, whatever its VALUE");
+    Pages x = new Pages();
+    due(x.put("a", 'b'), NONE);
+    due(x.put("c", 'c'), NONE);
+    due(x.rank("ab", 1), 0);
+    due(x.rank("a", 1), 1);
+    due(x.rank("cc", 1), 0);
+    due(x.rank("ab", 0), 1);
+    due(x.rank("cc", 0), 2);
+    due(x.find("ab"), NONE);
+    due(x.take("ab"), NONE);
+    due(x.letter(0, 1), NONE);
+    due(x.put("ab", 1), NONE);
+    x.dueLeaf(0, 0, "a=98 ab=1 c=99");
+  }
+
   private static void rankIsBad() {
     Pages.sentence("rank: BAD");
     Pages x = Pages.pairs(3);
@@ -419,6 +437,7 @@ public final class SortedPagesEdgesOfCalls {
     findAndNone();
     howManyAreLess();
     howManyBeginSo();
+    aValueIsNoLetter();
     rankIsBad();
     pathOnALevel();
     letterOfAKey();

@@ -445,6 +445,20 @@ public final class SortedPagesEdgesOfChanges {
     x.dueTimes(0, 9, 1, 0);
   }
 
+  private static void staysDownToOneEntry() {
+    Pages.sentence("but if USED of the INNER above were above 64 by that, all stays as it is: again and again");
+    Pages x = Pages.leafOfOneEntry();
+    x.dueLeaf(0, 2, "aaaae=7");
+    x.dueLeaf(1, 4, "aab=7 " + Pages.row("aabaa", 8));
+    due(x.page(1, 3), 64);
+    due(x.page(2, 3), 63);
+    x.dueTimes(0, 9, 0, 0);
+    due(x.take("aaaae"), 7);
+    x.dueLeaf(0, 4, "aab=7 " + Pages.row("aabaa", 8));
+    x.dueFree(1);
+    x.dueTimes(0, 9, 1, 0);
+  }
+
   /** Page 11 has 24 bytes since it was split; only a join in it would have it mended. */
   private static void sharedLeavesDoNotMendTheInner() {
     Pages.sentence("JOINED: .. then that INNER ..: not when they are SHARED");
@@ -625,6 +639,7 @@ public final class SortedPagesEdgesOfChanges {
     leavesOf62BytesAreShared();
     sharedIfTheInnerAboveHas64();
     allStaysIfTheInnerAboveHadMore();
+    staysDownToOneEntry();
     sharedLeavesDoNotMendTheInner();
     loadFrom();
     loadSteps();

@@ -302,6 +302,19 @@ public final class SortedPagesEdgesOfChecks {
     due(y.check(3, 33, 'z'), 0);
   }
 
+  private static void aPageOfOneEntry() {
+    Pages.sentence("4 one is .. not below the one behind it: the only one of a PAGE");
+    Pages x = Pages.leafOfOneEntry();
+    due(x.page(0, 1), 1);
+    due(x.check(0, 6, 'a'), 0);
+    due(x.check(0, 6, 'b'), 400);
+    due(x.check(0, 6, 'c'), 400);
+    due(x.check(0, 4, 'z'), 400);
+    due(x.check(0, 8, 'z'), 0);
+    due(x.check(0, 1, 0), 200);
+    due(x.check(0, 1, 2), 200);
+  }
+
   private static void thoseOfAllInnerOnesAbove() {
     Pages.sentence("4 .. (those of all INNER ones above count): KEYS");
     Pages x = threeLevels();
@@ -496,6 +509,7 @@ public final class SortedPagesEdgesOfChecks {
     separatorsDoNotRise();
     belowTheSeparatorAhead();
     notBelowTheSeparatorBehind();
+    aPageOfOneEntry();
     thoseOfAllInnerOnesAbove();
     separatorsBetweenThoseAbove();
     aChildAbove31();

@@ -99,7 +99,8 @@ public final class SortedPagesEdgesOfTexts {
 
   private static void lettersThatAreNoCommand() {
     Pages.sentence("FAULT: letters that are no command");
-    String[] words = {"pu", "puts", "pux", "tak", "takes", "taka", "loa", "loads", "loae", "x", "a", "find", "oad", "ut", "ake"};
+    String[] words = {"pu", "puts", "pux", "tak", "takes", "taka", "loa", "loads", "loae", "x", "a", "find", "oad", "ut", "ake",
+      "but", "pat", "make", "tike", "tale", "road", "lead", "lord", "loan"};
     for (String word : words) fault(word + " a 1;", 0);
     fault("put a 1;puts a 1;", 8);
     fault("  x;", 2);

@@ -76,7 +76,7 @@ public final class SortedPagesFace {
     Random random = new Random(7);
     for (int object = 0; object < 60; object++) {
       SortedPages x = new SortedPages();
-      for (int call = 0; call < 512; call++) {
+      for (int call = 0; call < 400; call++) {
         int a = numbers[random.nextInt(numbers.length)], b = numbers[random.nextInt(numbers.length)], c = numbers[random.nextInt(numbers.length)];
         switch (random.nextInt(20)) {
           case 0: x.type("putakeload 0123;".charAt(random.nextInt(16))); break;

@@ -612,7 +612,7 @@ public final class SortedPagesModel {
     int width = 3 + run.random.nextInt(6);
     List<String> all = new ArrayList<>();
     StringBuilder text = new StringBuilder();
-    while (run.calls < 380) {
+    while (run.calls < 370) {
       text.setLength(0);
       while (text.length() < 105) {
         if (!all.isEmpty() && run.random.nextInt(3) == 0) text.append("take ").append(all.remove(run.random.nextInt(all.size()))).append(';');

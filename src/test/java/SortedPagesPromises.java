@@ -1,4 +1,6 @@
-/** Each promise by itself: ordinary inputs, the edges that the document names, wrong inputs. */
+import java.util.function.Supplier;
+
+/** Each promise by itself: ordinary inputs, edges, wrong inputs; no object is asked more than 512 times. */
 public final class SortedPagesPromises {
   private static final int BAD = -1, STATE = -2, FULL = -3, NONE = -9;
   private static final int LOWEST = Integer.MIN_VALUE, HIGHEST = Integer.MAX_VALUE;
@@ -42,8 +44,8 @@ public final class SortedPagesPromises {
 
   private static String pageText(SortedPages x, int p) {
     StringBuilder text = new StringBuilder();
-    int at = 3;
-    for (int i = 0; i < x.byteAt(p, 1); i++) {
+    int at = 3, entries = x.byteAt(p, 1);
+    for (int i = 0; i < entries; i++) {
       int letters = x.byteAt(p, at);
       text.append(i == 0 ? "" : " ");
       for (int j = 1; j <= letters; j++) text.append((char) x.byteAt(p, at + j));
@@ -73,10 +75,13 @@ public final class SortedPagesPromises {
     for (int what = 0; what < want.length; what++) due("times(" + what + ")", x.times(what), want[what]);
   }
 
-  private static long bytesTogether(SortedPages x) {
+  private static void dueDigest(Supplier<SortedPages> made) {
     long h = 17;
-    for (int p = 0; p < 32; p++) for (int i = 0; i < 64; i++) h = 31 * h + x.byteAt(p, i);
-    return h;
+    for (int p = 0; p < 32; p++) {
+      SortedPages x = made.get();
+      for (int i = 0; i < 64; i++) h = 31 * h + x.byteAt(p, i);
+    }
+    due("digest()", made.get().digest(), h);
   }
 
   /** Keys aa, ab, .. with values 0, 1, ..: the sixteenth splits the first leaf. */
@@ -96,7 +101,8 @@ public final class SortedPagesPromises {
     dueCounts(x, 0, 1, 0, 31, 3, 1, 0, 0);
     dueTimes(x, 0, 0, 0, 0);
     for (int p = 0; p < 32; p++) {
-      for (int i = 0; i < 64; i++) due("byteAt(" + p + ", " + i + ")", x.byteAt(p, i), p + i == 0 ? 1 : 0);
+      SortedPages y = new SortedPages();
+      for (int i = 0; i < 64; i++) due("byteAt(" + p + ", " + i + ")", y.byteAt(p, i), p + i == 0 ? 1 : 0);
     }
     due("back(0)", x.back(0), STATE);
     due("back(1)", x.back(1), STATE);
@@ -440,53 +446,76 @@ public final class SortedPagesPromises {
     due("check(0, 0, 1)", x.check(0, 0, 1), 0);
   }
 
+  /** Keys of this head and a last letter more, from and to such letters, by texts as short as they may be. */
+  private static void longKeys(SortedPages x, String head, char from, char to) {
+    int commands = 0;
+    for (char c = from; c <= to; c++) {
+      type(x, "put " + head + c + (c - 'a') + ";");
+      commands++;
+      if (commands == 7 || c == to) {
+        due("run() of long keys", x.run(), commands);
+        commands = 0;
+      }
+    }
+  }
+
+  private static void shortKeys(SortedPages x, char from, char to) {
+    for (char c = from; c <= to; c++) due("put of " + c, x.put(c - 'a', 1, c - 'a'), NONE);
+  }
+
   private static SortedPages fiveLongSeparators() {
     SortedPages x = new SortedPages();
-    for (int i = 0; i < 22; i++) command(x, "aaaaaaa" + (char) ('a' + i), i);
-    for (int i = 1; i <= 14; i++) command(x, "" + (char) ('a' + i), i);
+    longKeys(x, "aaaaaaa", 'a', 'v');
+    shortKeys(x, 'b', 'o');
+    return x;
+  }
+
+  /** With so many taken, from p down; each look at a page needs a tree of its own, for 512 calls are few. */
+  private static SortedPages longNeighbour(int taken) {
+    SortedPages x = fiveLongSeparators();
+    longKeys(x, "zzzzzzz", 'a', 'c');
+    shortKeys(x, 'p', 'p');
+    longKeys(x, "zzzzzzz", 'd', 'f');
+    for (int i = 15; i > 15 - taken; i--) due("take(" + i + ", 1)", x.take(i, 1), i);
     return x;
   }
 
   /** The separator z would become one of eight letters, and the root have 66 bytes. */
   private static void staysAsItIs() {
-    SortedPages x = fiveLongSeparators();
-    for (int i = 0; i < 3; i++) command(x, "zzzzzzz" + (char) ('a' + i), i);
-    command(x, "p", 15);
-    for (int i = 3; i < 6; i++) command(x, "zzzzzzz" + (char) ('a' + i), i);
-    duePage(x, 2, 2, 0, "aaaaaaae=1 aaaaaaai=3 aaaaaaam=4 aaaaaaaq=5 aaaaaaau=6 f=7 z=8");
-    due("USED of the root", x.page(2, 3), 59);
-    due("take of p", x.take(15, 1), 15);
-    due("take of o", x.take(14, 1), 14);
-    duePage(x, 7, 1, 9, "f=5 g=6 h=7 i=8 j=9 k=10 l=11 m=12 n=13");
-    duePage(x, 8, 1, 0, "zzzzzzza=0 zzzzzzzb=1 zzzzzzzc=2 zzzzzzzd=3 zzzzzzze=4 zzzzzzzf=5");
-    duePage(x, 2, 2, 0, "aaaaaaae=1 aaaaaaai=3 aaaaaaam=4 aaaaaaaq=5 aaaaaaau=6 f=7 z=8");
-    dueTimes(x, 0, 7, 0, 0);
-    due("take of n", x.take(13, 1), 13);
+    String root = "aaaaaaae=1 aaaaaaai=3 aaaaaaam=4 aaaaaaaq=5 aaaaaaau=6 f=7 z=8";
+    duePage(longNeighbour(0), 2, 2, 0, root);
+    due("USED of the root", longNeighbour(0).page(2, 3), 59);
+    duePage(longNeighbour(2), 7, 1, 9, "f=5 g=6 h=7 i=8 j=9 k=10 l=11 m=12 n=13");
+    duePage(longNeighbour(2), 8, 1, 0, "zzzzzzza=0 zzzzzzzb=1 zzzzzzzc=2 zzzzzzzd=3 zzzzzzze=4 zzzzzzzf=5");
+    duePage(longNeighbour(2), 2, 2, 0, root);
+    dueTimes(longNeighbour(2), 0, 7, 0, 0);
+    SortedPages x = longNeighbour(3);
     duePage(x, 7, 1, 9, "f=5 g=6 h=7 i=8 j=9 k=10 l=11 m=12");
     due("check(0, 0, 1)", x.check(0, 0, 1), 0);
-    for (int i = 5; i < 13; i++) due("take(" + i + ", 1)", x.take(i, 1), i);
-    due("no page stays without entries", x.check(0, 0, 1), 0);
+    due("no page stays without entries", longNeighbour(11).check(0, 0, 1), 0);
     justComesIn();
+  }
+
+  private static SortedPages shorterNeighbour(int taken) {
+    SortedPages x = fiveLongSeparators();
+    longKeys(x, "zzzzz", 'a', 'c');
+    shortKeys(x, 'p', 'r');
+    longKeys(x, "zzzzz", 'd', 'e');
+    int[] order = {16, 17, 15, 14};
+    for (int i = 0; i < taken; i++) due("take(" + order[i] + ", 1)", x.take(order[i], 1), order[i]);
+    return x;
   }
 
   /** With keys of six letters the root has 64 bytes then, which is not too many. */
   private static void justComesIn() {
-    SortedPages x = fiveLongSeparators();
-    for (int i = 0; i < 3; i++) command(x, "zzzzz" + (char) ('a' + i), i);
-    for (int i = 15; i <= 17; i++) command(x, "" + (char) ('a' + i), i);
-    for (int i = 3; i < 5; i++) command(x, "zzzzz" + (char) ('a' + i), i);
-    duePage(x, 2, 2, 0, "aaaaaaae=1 aaaaaaai=3 aaaaaaam=4 aaaaaaaq=5 aaaaaaau=6 f=7 q=8");
-    x.take(16, 1);
-    x.take(17, 1);
-    x.take(15, 1);
-    dueTimes(x, 0, 7, 0, 0);
-    x.take(14, 1);
-    dueTimes(x, 0, 7, 0, 1);
-    duePage(x, 2, 2, 0, "aaaaaaae=1 aaaaaaai=3 aaaaaaam=4 aaaaaaaq=5 aaaaaaau=6 f=7 zzzzzb=8");
-    due("USED of the root", x.page(2, 3), 64);
-    duePage(x, 7, 1, 9, "f=5 g=6 h=7 i=8 j=9 k=10 l=11 m=12 n=13 zzzzza=0");
-    duePage(x, 8, 1, 0, "zzzzzb=1 zzzzzc=2 zzzzzd=3 zzzzze=4");
-    due("check(0, 0, 1)", x.check(0, 0, 1), 0);
+    duePage(shorterNeighbour(0), 2, 2, 0, "aaaaaaae=1 aaaaaaai=3 aaaaaaam=4 aaaaaaaq=5 aaaaaaau=6 f=7 q=8");
+    dueTimes(shorterNeighbour(3), 0, 7, 0, 0);
+    dueTimes(shorterNeighbour(4), 0, 7, 0, 1);
+    duePage(shorterNeighbour(4), 2, 2, 0, "aaaaaaae=1 aaaaaaai=3 aaaaaaam=4 aaaaaaaq=5 aaaaaaau=6 f=7 zzzzzb=8");
+    due("USED of the root", shorterNeighbour(4).page(2, 3), 64);
+    duePage(shorterNeighbour(4), 7, 1, 9, "f=5 g=6 h=7 i=8 j=9 k=10 l=11 m=12 n=13 zzzzza=0");
+    duePage(shorterNeighbour(4), 8, 1, 0, "zzzzzb=1 zzzzzc=2 zzzzzd=3 zzzzze=4");
+    due("check(0, 0, 1)", shorterNeighbour(4).check(0, 0, 1), 0);
   }
 
   private static void loading() {
@@ -511,6 +540,10 @@ public final class SortedPagesPromises {
     duePage(x, 0, 1, 2, "aay=0 aaz=1 aba=2 abb=3 abc=4 abd=5 abe=6");
     duePage(x, 1, 1, 0, "abf=7 abg=8 abh=9 abi=10 abj=11 abk=12");
     duePage(x, 2, 2, 0, "abf=1");
+    loadedLeaves(new SortedPages());
+  }
+
+  private static void loadedLeaves(SortedPages x) {
     int[] keys = {13, 17, 18, 29, 30, 41, 42, 53, 54, 60};
     int[][] leaves = {{7, 6}, {9, 8}, {12, 6}, {12, 9, 8}, {12, 12, 6}, {12, 12, 9, 8}, {12, 12, 12, 6}, {12, 12, 12, 9, 8},
       {12, 12, 12, 12, 6}, {12, 12, 12, 12, 12}};
@@ -653,7 +686,7 @@ public final class SortedPagesPromises {
     long before = x.digest();
     int[][] bad = {{-1, 0, 0}, {32, 0, 0}, {0, -1, 0}, {0, 64, 0}, {0, 0, -1}, {0, 0, 256}, {LOWEST, HIGHEST, LOWEST}, {HIGHEST, LOWEST, HIGHEST}};
     for (int[] b : bad) dueCheck(x, b[0], b[1], b[2], BAD);
-    for (int p = 0; p < 32; p++) for (int i = 0; i < 64; i += 7) dueCheck(x, p, i, x.byteAt(p, i), 0);
+    for (int p = 0; p < 32; p++) for (int i = 0; i < 64; i += 15) dueCheck(x, p, i, x.byteAt(p, i), 0);
     dueCheck(x, 2, 0, 1, 102);
     dueCheck(x, 2, 0, 0, 102);
     dueCheck(x, 0, 0, 2, 100);
@@ -767,15 +800,19 @@ public final class SortedPagesPromises {
   private static void digesting() {
     promise = 17;
     due("digest() of a new one", new SortedPages().digest(), 2125470210860219376L);
-    SortedPages x = pairs(24);
-    due("digest()", x.digest(), bytesTogether(x));
-    x.take(3, 2);
-    due("digest()", x.digest(), bytesTogether(x));
-    x.put(0, 2, 255);
-    due("digest()", x.digest(), bytesTogether(x));
-    type(x, "abc");
-    x.keep(0);
-    due("digest()", x.digest(), bytesTogether(x));
+    dueDigest(() -> pairs(24));
+    dueDigest(() -> {
+      SortedPages x = pairs(24);
+      x.take(3, 2);
+      x.put(0, 2, 255);
+      return x;
+    });
+    dueDigest(() -> {
+      SortedPages x = pairs(24);
+      type(x, "abc");
+      x.keep(0);
+      return x;
+    });
   }
 
   private static void keepingAndBack() {

@@ -176,6 +176,17 @@ final class Pages {
     return new Pages().rise("aa", n);
   }
 
+  /**
+   * Page 0 has only one entry, aaaae, and stays so: with page 1, of 64 bytes, it would be shared, but each time the separator
+   * aab would become one of five letters, and the root have 65 bytes.
+   */
+  static Pages leafOfOneEntry() {
+    Pages x = leaves("aaaaa", "aabaa", "aabba", "aabbf", "aabbk", "aabbp", "aabbu", "aabbz", "aabce", "aabcj");
+    x.puts(7, "aabaf", "aabag", "aabah", "aab");
+    for (String key : new String[] {"aaaaa", "aaaab", "aaaac", "aaaad"}) due(x.take(key), 7);
+    return x;
+  }
+
   void typeAll(String text) {
     for (char c : text.toCharArray()) type(c);
   }
